@@ -171,7 +171,8 @@ public final class PaintedTown {
     public int never(int row) {
         if (row < 0 || row >= painting.rows) return BAD;
         supposeNow();
-        for (int x = 0; x < painting.cells(); x++) {
+        int cells = painting.cells();
+        for (int x = 0; x < cells && x < MOST_CELLS; x++) {
             int due = painting.should[x];
             if (trial.is[x] != due) trial.place(x, due, 0);
         }
@@ -331,8 +332,8 @@ public final class PaintedTown {
         movedCount = 0;
         movedFirst = NONE;
         int cells = painting.cells();
-        for (int a = 0; a < cells; a++) {
-            for (int b = a + 1; b < cells; b++) {
+        for (int a = 0; a < cells && a < MOST_CELLS; a++) {
+            for (int b = a + 1; b < cells && b < MOST_CELLS; b++) {
                 if (trial.is[a] == trial.is[b]) continue;
                 trial.exchange(a, b);
                 if (allIsSo()) {
@@ -598,7 +599,11 @@ public final class PaintedTown {
                 take(count, cost);
                 return;
             }
-            if (count >= MOST_CHOSEN) return;
+            addEach(from, count, cost);
+        }
+
+        private void addEach(int from, int count, int cost) {
+            if (from < 0 || count < 0 || count >= MOST_CHOSEN) return;
             int cells = painting.cells();
             for (int x = from; x < cells && x < MOST_CELLS; x++) {
                 int due = painting.should[x], thing = town.is[x], old = town.age[x];

@@ -166,6 +166,10 @@ public final class ChangesTest {
         for (int i = 0; i < 400; i++) town.pass(20);
         due("many YEARS", town.count(3), 8024);
         due("an old TREE", town.cell(2, 4), 8024);
+        town = CHECK.laid("v6,6;i0,5;i35,5;i35,5;");
+        town.pass(20);
+        due("the first CELL", town.cell(0, 4), 20);
+        due("the last CELL", town.cell(35, 4), 20);
     }
 
     private static void change(PaintedTown town, int kind) {

@@ -101,6 +101,16 @@ public final class ComesTest {
     private static void promise18Seen() {
         // what is not WRONG can be MENDED: SMOKE that blows out of an unpainted CELL, a TREE below
         sets(CHECK.laid("v2,2;w2;e1;i0,4;l0;"), false, 0, 0);
+        sets(CHECK.laid("v2,2;w3;e0;i1,4;l0;"), false, 0, 1);
+        sets(CHECK.laid("v2,2;w1;e0;i2,4;l0;"), false, 0, 2);
+        PaintedTown later = CHECK.laid("v2,2;l0;");
+        sets(later, false, 0);
+        for (int x = 0; x < 4; x++) later.put(x, 1);
+        sets(later, false, NONE);
+        sets(later, true, NONE);
+        later.put(0, 0);
+        sets(later, false, 0, 1, 2, 3);
+        sets(later, true, 3, 1, 2, 3);
         PaintedTown town = CHECK.laid("v3,2;p5,5;e1;i3,5;l0;");
         town.pass(3);
         // the TREE in CELL 3 is WRONG, and seen in CELL 1; the one in 5, as it SHOULD be, is seen in CELL 3

@@ -98,7 +98,7 @@ public final class TownsTest {
         fault("", NONE);
         String[] wrong = {
             "v1,5;", "v7,2;", "v2,1;", "v2,7;", "v0,0;", "v4;", "v4,5,6;", "v;", "v4,5", "v4,", "v4", "v", "v4,5,", "v4,99;",
-            "p20,0;", "p0,8;", "p0;", "p0,1,2;", "p99,1;", "p,1;", "p0,;", "p0,1", "p 0,1;", "p0, 1;", "p0,1 ;", "p-1,1;",
+            "p20,0;", "p0,8;", "p0;", "p0,1,2;", "p99,1;", "p,1;", "p0,;", "p0,1", "p 0,1;", "p0, 1;", "p0,1 ;", "p-1,1;", "p0.1;", "p0:1;",
             "i20,0;", "i0,8;", "i0;", "i0,1,1;", "i", "e100;", "e001;", "e;", "e1,2;", "e1,;", "e1", "w4;", "w;", "w1,1;",
             "l100;", "l;", "l1,1;", "l-1;", "g1,2,3,5;", "g1,2,3;", "g1,2,3,3;", "g10;", "g2,2,2,2,2;", "g11,0,0,0;",
             "g10,0,0,0", "g10,0,0,0,;", "g010,0,0,0;", "x1;", "V4,5;", "P0,1;", ";", ",", "1;", " v4,5;", "~", "z", "e;;"
@@ -119,6 +119,8 @@ public final class TownsTest {
         fault("l5;l5;x;y;", 6);
         fault("p0,1;p0,8;v1,1;", 5);
         fault("l5; ", 3);
+        fault("g1,2,3,4;g1,2,3;", 9);
+        fault("p1,2;p1;", 5);
     }
 
     private static void promise5() {
@@ -187,6 +189,19 @@ public final class TownsTest {
         town.lay();
         due("nothing stays of a former town", town.fine(0), 0);
         due("nothing is in the last CELL", town.cell(35, 1), 0);
+        town.wipe();
+        Check.write(town, "v2,2;p0,1;l3;w3;e3;g0,0,0,10;");
+        town.lay();
+        town.wipe();
+        Check.write(town, "i19,1;");
+        due("lay without v", town.lay(), 20);
+        due("rows without v", town.count(1), 4);
+        due("nothing SHOULD be", town.cell(0, 0), 0);
+        due("L without l", town.count(6), 10);
+        due("WIND without w", town.count(4), 0);
+        due("EYE without e", town.count(5), 0);
+        town.put(0, 4);
+        due("days without g", town.chance(0), 0);
     }
 
     private static void promise5LastCounts() {
@@ -266,6 +281,8 @@ public final class TownsTest {
         smoke(1, 1, "v3,3;i4,4;");
         smoke(2, 5, "v3,3;i4,4;");
         smoke(3, 3, "v3,3;i4,4;");
+        smoke(3, 4, "v3,3;i5,4;");
+        smoke(2, 4, "v3,3;i3,4;");
         smoke(1, -1, "v3,3;i2,4;");
         smoke(2, -1, "v3,3;i2,4;");
         smoke(3, -1, "v3,3;i3,4;");
