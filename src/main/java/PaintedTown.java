@@ -187,7 +187,7 @@ public final class PaintedTown {
 
     public int fined(int d, int f) {
         if (d < 0 || d >= WINDS || f < 0 || f > MOST_FINE) return BAD;
-        if (finedCount >= MOST_FINED) return FULL;
+        if (finedCount < 0 || finedCount >= MOST_FINED) return FULL;
         finedWind[finedCount] = d;
         finedSum[finedCount] = f;
         finedCount++;
@@ -408,10 +408,13 @@ public final class PaintedTown {
 
         /** The CELL from which the WIND goes to x; no CELL of the VIEW: it comes from outside. */
         int windward(int x, int wind) {
-            if (columns < 1 || wind == NOWHERE) return x;
-            if (wind == UP) return x + columns;
-            if (wind == RIGHT) return x % columns > 0 ? x - 1 : NONE;
-            return x % columns < columns - 1 ? x + 1 : NONE;
+            if (columns < 1) return x;
+            switch (wind) {
+                case UP: return x + columns;
+                case RIGHT: return x % columns > 0 ? x - 1 : NONE;
+                case LEFT: return x % columns < columns - 1 ? x + 1 : NONE;
+                default: return x;
+            }
         }
 
         /** Rows and columns together between two CELLS. */
