@@ -27,7 +27,6 @@ public final class PaintedTown {
     private final int[] finedWind = new int[MOST_FINED];
     private final int[] finedSum = new int[MOST_FINED];
     private int finedCount = 0;
-    private int movedCount = 0, movedFirst = NONE;
 
     public PaintedTown() {
         for (int i = 0; i < FIRST_TOWN.length(); i++) {
@@ -157,14 +156,16 @@ public final class PaintedTown {
     public int least(int k) {
         if (k < 0 || k > MOST_CHOSEN) return BAD;
         supposeNow();
-        search.run(false);
+        search.start(false);
+        search.extend(0, 0, 0);
         return k == 0 ? search.leastCost() : search.chosenCell(k);
     }
 
     public int canvases(int k) {
         if (k < 0 || k > MOST_CHOSEN) return BAD;
         supposeNow();
-        search.run(true);
+        search.start(true);
+        search.extend(0, 0, 0);
         return k == 0 ? search.leastCount() : search.chosenCell(k);
     }
 
@@ -202,8 +203,20 @@ public final class PaintedTown {
 
     public int moved(int what) {
         if (what < 0 || what > 1) return BAD;
-        findMoved();
-        return what == 0 ? movedCount : movedFirst;
+        supposeNow();
+        int cells = painting.cells(), count = 0, first = NONE;
+        for (int a = 0; a < cells && a < MOST_CELLS; a++) {
+            for (int b = a + 1; b < cells && b < MOST_CELLS; b++) {
+                if (trial.is[a] == trial.is[b]) continue;
+                trial.exchange(a, b);
+                if (allIsSo()) {
+                    if (count == 0) first = 100 * a + b;
+                    count++;
+                }
+                trial.exchange(a, b);
+            }
+        }
+        return what == 0 ? count : first;
     }
 
     public int frames(int what) {
@@ -325,24 +338,6 @@ public final class PaintedTown {
             if (judge.sumUp() != finedSum[i]) return false;
         }
         return true;
-    }
-
-    private void findMoved() {
-        supposeNow();
-        movedCount = 0;
-        movedFirst = NONE;
-        int cells = painting.cells();
-        for (int a = 0; a < cells && a < MOST_CELLS; a++) {
-            for (int b = a + 1; b < cells && b < MOST_CELLS; b++) {
-                if (trial.is[a] == trial.is[b]) continue;
-                trial.exchange(a, b);
-                if (allIsSo()) {
-                    if (movedCount == 0) movedFirst = 100 * a + b;
-                    movedCount++;
-                }
-                trial.exchange(a, b);
-            }
-        }
     }
 
     private void liveThrough(int draw) {
@@ -573,11 +568,10 @@ public final class PaintedTown {
             this.judge = judge;
         }
 
-        void run(boolean canvas) {
+        void start(boolean canvas) {
             byCanvas = canvas;
             found = false;
             judge.sumUp();
-            extend(0, 0, 0);
         }
 
         int leastCost() {
@@ -620,6 +614,7 @@ public final class PaintedTown {
 
         /** A change is seen in its own CELL, above it (a TREE), and where the WIND may bring SMOKE. */
         private void change(int x, boolean hung, int thing, int old) {
+            if (!painting.has(x)) return;
             if (byCanvas) {
                 town.hung[x] = hung;
             } else {
